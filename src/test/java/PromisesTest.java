@@ -322,6 +322,30 @@ public final class PromisesTest {
         due("10: touching", y.plates(2), 3);
     }
 
+    /** Rows that are nearly at rest, or are for some of the plates alone, are no rest. */
+    static void promise10NearlyAtRest() {
+        SpringPlates x = withPlates(2);
+        x.spring(1, 1, 9);
+        x.load(1, -59);
+        // Both touch; at 0 the force on them is 50 + 10 - 59 = 1.
+        duePlace(x, 0, 1, 2);
+        duePlace(x, 1, 1, 2);
+        SpringPlates y = withPlates(2);
+        y.load(0, -29);
+        y.stop(1, 1, 30);
+        duePlace(y, 0, 1, 2);
+        duePlace(y, 1, 30, 1);
+        SpringPlates z = withPlates(4);
+        z.spring(3, 5, 16);
+        z.load(1, 55);
+        // The second and the third one touch short of the wall, the fourth one is at it.
+        duePlace(z, 0, 285, 11);
+        duePlace(z, 1, 570, 11);
+        duePlace(z, 2, 570, 11);
+        duePlace(z, 3, 60, 1);
+        due("10: touching", z.plates(2), 2);
+    }
+
     static void promise11Pull() {
         SpringPlates x = withPlates(1);
         duePull(x, 0, 20, 1);
@@ -749,6 +773,7 @@ public final class PromisesTest {
         promise9PlateOf();
         promise10Place();
         promise10HeldThroughNeighbors();
+        promise10NearlyAtRest();
         promise11Pull();
         promise12Push();
         promise13Plates();
