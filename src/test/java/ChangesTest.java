@@ -235,6 +235,26 @@ public final class ChangesTest {
         dueAnswersWithoutAChange(ChangesTest::full, questions);
     }
 
+    private static void questionsInAnyOrder() {
+        Due.sentence("Tells where a plate would rest if; Finds the least load (and changes nothing by that, for other questions)");
+        List<Call> questions = List.of(x -> x.without(0, 0, 1, 0), x -> x.without(2, 0, 2, 0), x -> x.leastLoad(1, 15),
+                x -> x.leastLoad(2, 30), x -> x.leastLoad(3, 50), x -> x.hardest(0), x -> x.hardest(2), x -> x.place(0, 0),
+                x -> x.place(2, 0), x -> x.push(1, 0), x -> x.plates(4), x -> x.pull(2, 0), x -> x.fault(0), x -> x.play(),
+                x -> x.width(54), x -> x.stop(3, 1, 20), x -> x.plateOf(0, 1));
+        long[] alone = new long[questions.size()];
+        for (int i = 0; i < alone.length; i++) {
+            alone[i] = questions.get(i).on(full());
+        }
+        for (int first = 0; first < alone.length; first++) {
+            for (int then = 0; then < alone.length; then++) {
+                SpringPlates x = full();
+                questions.get(first).on(x);
+                due("question " + then + " behind " + first, questions.get(then).on(x), alone[then]);
+                due("question " + first + " again", questions.get(first).on(x), alone[first]);
+            }
+        }
+    }
+
     private static void textIsNoChange() {
         Due.sentence("The changes are the calls of (not of type and clearText)");
         for (int states = 0; states <= 4; states++) {
@@ -429,6 +449,7 @@ public final class ChangesTest {
         errorsChangeNothing();
         playWithAFaultChangesNothing();
         questionsChangeNothing();
+        questionsInAnyOrder();
         textIsNoChange();
         whichErrorIsTold();
         changesAreRecorded();
