@@ -80,6 +80,35 @@ public final class RestEdgesTest {
         // 9 (541/18 - 10) and, on the other side, 9 (60 - 541/18 - 10)
         Due.duePull(x, 0, 361, 2);
         Due.duePull(x, 1, 359, 2);
+        // The same place by springs that push, so that the forces are below 0.
+        x.spring(0, 9, 50);
+        x.spring(1, 9, 50);
+        Due.duePlace(x, 0, 541, 18);
+        Due.duePull(x, 0, -359, 2);
+        Due.duePull(x, 1, -361, 2);
+    }
+
+    private static void lowestTermsBesideOthers() {
+        Due.sentence("in lowest terms (also where another plate's place has a greater lower part, and below 0)");
+        SpringPlates x = Due.plates(2);
+        x.stop(0, 0, 31);
+        x.stop(0, 1, 31);
+        x.spring(0, 1, 50);
+        int[] strengths = {1, 2, 3, 4, 5};
+        int[] uppers = {91, 47, 191, 241, 97};
+        int[] lowers = {2, 1, 4, 5, 2};
+        for (int i = 0; i < strengths.length; i++) {
+            // The second one is at (31 + 10 + 50 times the strength) over 1 and the strength.
+            x.spring(2, strengths[i], 10);
+            Due.duePlace(x, 1, uppers[i], lowers[i]);
+            Due.duePlace(x, 0, 31, 1);
+            Due.duePull(x, 0, -19, 1);
+            x.spring(0, 1, 40);
+            Due.duePull(x, 0, -9, 1);
+            x.spring(0, 1, 25);
+            Due.duePull(x, 0, 6, 1);
+            x.spring(0, 1, 50);
+        }
     }
 
     private static void nothingIsZeroOverOne() {
@@ -497,6 +526,7 @@ public final class RestEdgesTest {
         placeParts();
         placeRoundedDown();
         lowestTerms();
+        lowestTermsBesideOthers();
         nothingIsZeroOverOne();
         stopsAreNotPassed();
         stopsOfOthersHold();
