@@ -5,6 +5,7 @@ import java.lang.reflect.Method;
 import java.lang.reflect.Modifier;
 import java.nio.file.Files;
 import java.nio.file.Path;
+import java.util.ArrayList;
 import java.util.Arrays;
 import java.util.List;
 import java.util.Set;
@@ -68,6 +69,25 @@ public final class FaceTest {
         }
     }
 
+    /** The rules' "some twelve classes", "some twenty fields beside its constants" and "at most seven parameters". */
+    static void counts() {
+        List<Class<?>> classes = new ArrayList<>(Arrays.asList(SpringPlates.class.getDeclaredClasses()));
+        classes.add(SpringPlates.class);
+        check(classes.size() <= 12, "there are " + classes.size() + " classes");
+        for (Class<?> one : classes) {
+            int fields = 0;
+            for (Field field : one.getDeclaredFields()) {
+                boolean constant = Modifier.isStatic(field.getModifiers());
+                fields += constant ? 0 : 1;
+                check(!constant || Modifier.isFinal(field.getModifiers()), one + ": " + field.getName() + " is not final");
+            }
+            check(fields <= 20, one + " has " + fields + " fields");
+            for (Method method : one.getDeclaredMethods()) {
+                check(method.getParameterCount() <= 7, one + ": " + method.getName() + " takes too many parameters");
+            }
+        }
+    }
+
     static void words() throws IOException {
         List<String> lines = Files.readAllLines(Path.of("src/main/java/SpringPlates.java"));
         StringBuilder code = new StringBuilder();
@@ -82,6 +102,11 @@ public final class FaceTest {
         while (forbidden.find()) {
             check(false, "the file has " + forbidden.group());
         }
+        Matcher other = Pattern.compile("\\b(?!SpringPlates|Layout|Rest|Script|Math)[A-Z]\\w*[a-z]\\w*\\.\\w+").matcher(code);
+        while (other.find()) {
+            check(other.group().equals("System.arraycopy"), "the file uses " + other.group());
+        }
+        check(code.chars().allMatch(sign -> sign < 128), "the file has signs beyond 127");
         methodsAreShort(lines);
     }
 
@@ -102,6 +127,7 @@ public final class FaceTest {
 
     public static void main(String[] args) throws IOException {
         face();
+        counts();
         words();
         System.out.println(wrong == 0 ? "the face is as due" : wrong + " things are not as due");
         if (wrong != 0) {
